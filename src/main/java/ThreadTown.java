@@ -1611,12 +1611,13 @@ public final class ThreadTown {
             return best;
         }
 
+        /** Of alike ones the least bits come first anyhow: they are tried first. */
         private static boolean isLess(Text text, Day day, int who, int than) {
             int fewer = Integer.bitCount(who) - Integer.bitCount(than);
             if (fewer == 0) {
                 fewer = day.countLying(text, who) - day.countLying(text, than);
             }
-            return fewer < 0 || (fewer == 0 && who < than);
+            return fewer < 0;
         }
 
         /** All (bits) whom these (bits) know, and these. */

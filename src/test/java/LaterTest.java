@@ -101,6 +101,7 @@ public final class LaterTest {
         town.tell(1, 0, true);
         Check.due("b over a in two", 3, town.starts(1, 2, 1));
         Check.due("b over a in one", 1, town.starts(1, 1, 1));
+        Check.due("all in minute 0", 1, town.starts(0, 1, 1));
         Check.steps(town, "a1");
         town.cut(1);
         town.run(7);

@@ -49,6 +49,18 @@ public final class TextTest {
         Check.due("DEEP", 4, town.count(2));
     }
 
+    private static void takenBack() {
+        String[] all = {"seed 12345          ", "longer = 7;         ", "town 3 3;man a 0 0;;"};
+        int[][] due = {{14, 1, 6}, {17, 1, 0}, {1, 0, -1}};
+        for (int i = 0; i < all.length; i++) {
+            ThreadTown town = new ThreadTown();
+            Check.feed(town, all[i]);
+            town.back(due[i][0]);
+            Check.due("what was taken back is not read: " + all[i], due[i][1], town.read());
+            Check.due("its place: " + all[i], due[i][2], town.place());
+        }
+    }
+
     private static void syntax() {
         fault("x", 1, 0);
         fault("  ;", 1, 2);
@@ -158,6 +170,7 @@ public final class TextTest {
         fault("pillar 11 0;", 5, 7);
         fault("pillar 0 11;", 5, 9);
         fine("seed 9999;");
+        fine("seed 0;");
         fault("town 3 3;man a 3 0;", 6, 15);
         fault("town 3 3;man a 0 3;", 6, 15);
         fault("man a 3 0;town 3 3;", 6, 6);
@@ -214,6 +227,7 @@ public final class TextTest {
     public static void main(String[] args) {
         newObject();
         feeding();
+        takenBack();
         syntax();
         room();
         namesAndNumbers();
