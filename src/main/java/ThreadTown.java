@@ -1927,6 +1927,9 @@ public final class ThreadTown {
             if (rows > START_ROWS) {
                 return NOT_THERE;
             }
+            if (known == 0) {
+                return rows;
+            }
             int fitting = 0;
             Arrays.fill(row, 0);
             for (int i = 0; i < rows && i < START_ROWS; i++) {

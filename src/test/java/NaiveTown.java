@@ -115,16 +115,7 @@ final class NaiveTown {
             || !inTown(s.x[man] + DX[way], s.y[man] + DY[way])) {
             return false;
         }
-        Piece piece = new Piece();
-        piece.man = man;
-        piece.way = way;
-        piece.fromX = s.x[man];
-        piece.fromY = s.y[man];
-        s.x[man] += DX[way];
-        s.y[man] += DY[way];
-        piece.toX = s.x[man];
-        piece.toY = s.y[man];
-        s.pieces.add(piece);
+        layAnyhow(s, man, way);
         return true;
     }
 
