@@ -2,6 +2,7 @@
 final class Check {
     private static int checks = 0;
     private static int wrong = 0;
+    private static String about = "";
 
     private Check() {
     }
@@ -10,8 +11,17 @@ final class Check {
         checks++;
         if (want != got) {
             wrong++;
-            System.out.println(what + " answered " + got + ", due is " + want);
+            System.out.println(about + what + " answered " + got + ", due is " + want);
         }
+    }
+
+    /** What stands ahead of each wrong answer from here on. */
+    static void about(String what) {
+        about = what;
+    }
+
+    static int checks() {
+        return checks;
     }
 
     static void due(String what, boolean want, boolean got) {
@@ -42,6 +52,42 @@ final class Check {
     static int read(ThreadTown town, String text) {
         feed(town, text);
         return town.read();
+    }
+
+    /** A text, read by a new town: its FAULT (0: none) and where; the tape is empty then. */
+    static void fault(String text, int fault, int place) {
+        ThreadTown town = new ThreadTown();
+        due("read " + text, fault, read(town, text));
+        due("place of " + text, place, town.place());
+        due("tape behind " + text, 0, town.count(8));
+    }
+
+    static void fine(String text) {
+        fault(text, 0, -1);
+    }
+
+    /** What can be seen of a town: the counts, the MEN, the PIECES. */
+    static String seen(ThreadTown town) {
+        StringBuilder all = new StringBuilder("counts");
+        for (int i = 0; i < 12; i++) {
+            all.append(' ').append(town.count(i));
+        }
+        int men = town.count(0);
+        for (int man = 0; man < men; man++) {
+            all.append(" MAN ").append(man);
+            for (int i = 0; i < 8; i++) {
+                all.append(' ').append(town.man(man, i));
+            }
+            int pieces = town.man(man, 2);
+            for (int i = 0; i < 3 * pieces; i++) {
+                all.append(i % 3 == 0 ? " PIECE " : " ").append(town.piece(man, i / 3, i % 3));
+            }
+        }
+        return all.toString();
+    }
+
+    static void due(String what, String want, String got) {
+        due(what + ": " + got + " (as due: " + want + ")", true, want.equals(got));
     }
 
     /** A new town with a text that must have no FAULT. */

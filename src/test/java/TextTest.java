@@ -1,16 +1,5 @@
 /** Promises 1 to 5: a new object, the tape, texts and their FAULTS. */
 public final class TextTest {
-    private static void fault(String text, int fault, int place) {
-        ThreadTown town = new ThreadTown();
-        Check.due("read " + text, fault, Check.read(town, text));
-        Check.due("place of " + text, place, town.place());
-        Check.due("tape behind " + text, 0, town.count(8));
-    }
-
-    private static void fine(String text) {
-        fault(text, 0, -1);
-    }
-
     private static void newObject() {
         ThreadTown town = new ThreadTown();
         int[] counts = {0, 6, 6, 0, 0, 0, 0, 0, 0, 0, 0, 0};
@@ -62,123 +51,123 @@ public final class TextTest {
     }
 
     private static void syntax() {
-        fault("x", 1, 0);
-        fault("  ;", 1, 2);
-        fault("town 3 3", 1, 8);
-        fault("town 1 1 \n", 1, 10);
-        fault("town 3 3 3;", 1, 9);
-        fault("town 3;", 1, 6);
-        fault("man town 0 0;", 1, 4);
-        fault("man x 0 0;", 1, 4);
-        fault("man abcdefghi 0 0;", 1, 4);
-        fine("man abcdefgh 0 0;");
-        fine("man towns 0 0;man rankx 0 0;");
-        fine("man\ta\r0\n0 ; ");
-        fine("seed0009;town2 2;man1x".substring(0, 17));
-        fault("seed 12345;", 1, 5);
-        fault("seed 00009;", 1, 5);
-        fault("Man a 0 0;", 1, 0);
-        fault("man a 0.0;", 1, 7);
-        fault("man \u00e9 0 0;", 1, 4);
-        fault("seed 1;\0", 1, 7);
-        fault("long = ;", 1, 7);
-        fault("long = - 1;", 1, 7);
-        fault("long = 1 + ;", 1, 11);
-        fault("long = (1;", 1, 9);
-        fault("long = 1);", 1, 8);
-        fault("long = ();", 1, 8);
-        fault("long = 1 2;", 1, 9);
-        fault("long = 1 < 2;", 1, 9);
-        fault("long = if (1 < 2) then 1 else 2;", 1, 13);
-        fault("long = if 1 then 1 else 2;", 1, 12);
-        fault("long = if 1 < 2 < 3 then 1 else 2;", 1, 16);
-        fault("long = if 1 < 2 then 1;", 1, 22);
-        fault("long = if 1 < 2 then if 1 < 2 then 1 else 1 else 1;", 1, 21);
-        fault("long = a;", 1, 7);
-        fault("goes a 1;", 1, 7);
-        fault("goes = 1;", 1, 5);
-        fault("dye a 1 1;", 1, 8);
-        fault("pillar 1;", 1, 8);
-        fault("man a 0 0;dye a -1;", 1, 16);
+        Check.fault("x", 1, 0);
+        Check.fault("  ;", 1, 2);
+        Check.fault("town 3 3", 1, 8);
+        Check.fault("town 1 1 \n", 1, 10);
+        Check.fault("town 3 3 3;", 1, 9);
+        Check.fault("town 3;", 1, 6);
+        Check.fault("man town 0 0;", 1, 4);
+        Check.fault("man x 0 0;", 1, 4);
+        Check.fault("man abcdefghi 0 0;", 1, 4);
+        Check.fine("man abcdefgh 0 0;");
+        Check.fine("man towns 0 0;man rankx 0 0;");
+        Check.fine("man\ta\r0\n0 ; ");
+        Check.fine("seed0009;town2 2;man1x".substring(0, 17));
+        Check.fault("seed 12345;", 1, 5);
+        Check.fault("seed 00009;", 1, 5);
+        Check.fault("Man a 0 0;", 1, 0);
+        Check.fault("man a 0.0;", 1, 7);
+        Check.fault("man \u00e9 0 0;", 1, 4);
+        Check.fault("seed 1;\0", 1, 7);
+        Check.fault("long = ;", 1, 7);
+        Check.fault("long = - 1;", 1, 7);
+        Check.fault("long = 1 + ;", 1, 11);
+        Check.fault("long = (1;", 1, 9);
+        Check.fault("long = 1);", 1, 8);
+        Check.fault("long = ();", 1, 8);
+        Check.fault("long = 1 2;", 1, 9);
+        Check.fault("long = 1 < 2;", 1, 9);
+        Check.fault("long = if (1 < 2) then 1 else 2;", 1, 13);
+        Check.fault("long = if 1 then 1 else 2;", 1, 12);
+        Check.fault("long = if 1 < 2 < 3 then 1 else 2;", 1, 16);
+        Check.fault("long = if 1 < 2 then 1;", 1, 22);
+        Check.fault("long = if 1 < 2 then if 1 < 2 then 1 else 1 else 1;", 1, 21);
+        Check.fault("long = a;", 1, 7);
+        Check.fault("goes a 1;", 1, 7);
+        Check.fault("goes = 1;", 1, 5);
+        Check.fault("dye a 1 1;", 1, 8);
+        Check.fault("pillar 1;", 1, 8);
+        Check.fault("man a 0 0;dye a -1;", 1, 16);
     }
 
     private static void room() {
         String hundred = "town 6 6;".repeat(100);
-        fine(hundred);
-        fault(hundred + " seed 1;", 2, 901);
-        fault(hundred + " 1", 1, 901);
-        fault(hundred + " 12345", 1, 901);
-        fault("seed 1;".repeat(133) + "seed 1;", 2, 133 * 7 + 5);
-        fault("seed 1;".repeat(133) + "seed", 1, 133 * 7 + 4);
-        fault("(".repeat(500), 1, 0);
+        Check.fine(hundred);
+        Check.fault(hundred + " seed 1;", 2, 901);
+        Check.fault(hundred + " 1", 1, 901);
+        Check.fault(hundred + " 12345", 1, 901);
+        Check.fault("seed 1;".repeat(133) + "seed 1;", 2, 133 * 7 + 5);
+        Check.fault("seed 1;".repeat(133) + "seed", 1, 133 * 7 + 4);
+        Check.fault("(".repeat(500), 1, 0);
         String men = "man a 0 0;man b 0 0;man c 0 0;man d 0 0;man e 0 0;man f 0 0;man g 0 0;";
-        fine(men);
-        fault(men + "man h 0 0;", 2, 70);
-        fault(men + "man ;", 2, 70);
-        fault("man a 0 0;".repeat(8), 2, 70);
+        Check.fine(men);
+        Check.fault(men + "man h 0 0;", 2, 70);
+        Check.fault(men + "man ;", 2, 70);
+        Check.fault("man a 0 0;".repeat(8), 2, 70);
         String pillars = "pillar 0 0;".repeat(6);
-        fine(pillars);
-        fault(pillars + "pillar 0 0;", 2, 66);
+        Check.fine(pillars);
+        Check.fault(pillars + "pillar 0 0;", 2, 66);
         String errands = "man a 0 0;man b 1 1;" + "errand a 0 0;".repeat(6) + "errand b 1 1;".repeat(6);
-        fine(errands);
-        fault(errands + "errand a 0 0;", 2, 20 + 12 * 13);
-        fault(errands + "errand b 0 0;", 2, 20 + 12 * 13);
-        fault(errands + "errand 0 0;", 1, 20 + 12 * 13 + 7);
-        fault("errand a 0 0;".repeat(7) + "man a 0 0;", 4, 7);
-        fault("errand a 0 0;".repeat(7) + "man a 0 0;" + "errand a 0 0;".repeat(7), 2, 101 + 6 * 13);
+        Check.fine(errands);
+        Check.fault(errands + "errand a 0 0;", 2, 20 + 12 * 13);
+        Check.fault(errands + "errand b 0 0;", 2, 20 + 12 * 13);
+        Check.fault(errands + "errand 0 0;", 1, 20 + 12 * 13 + 7);
+        Check.fault("errand a 0 0;".repeat(7) + "man a 0 0;", 4, 7);
+        Check.fault("errand a 0 0;".repeat(7) + "man a 0 0;" + "errand a 0 0;".repeat(7), 2, 101 + 6 * 13);
         String ifs = "if 1<2 then 1 else ";
-        fine("long = " + ifs.repeat(4) + "0;");
-        fine("man a 0 0;long = " + ifs.repeat(4) + "0;goes a = " + ifs.repeat(4) + "0;");
-        fault("long = " + ifs.repeat(5) + "0;", 2, 7 + 4 * 19);
-        fine("long = ((((((1))))));");
-        fine("long = (1)+(1)+(1)+(1)+(1)+(1)+(1)+(1);");
-        fine("long = if ((((((1)))))) < ((((((1)))))) then ((((((1)))))) else ((((((1))))));");
-        fault("long = (((((((1)))))));", 2, 13);
-        fine("long = 1*(1+(1*(1+(1*(1+(1*1))))));");
-        fault("long = 1*(1+(1*(1+(1*(1+(1*(1)))))));", 2, 27);
+        Check.fine("long = " + ifs.repeat(4) + "0;");
+        Check.fine("man a 0 0;long = " + ifs.repeat(4) + "0;goes a = " + ifs.repeat(4) + "0;");
+        Check.fault("long = " + ifs.repeat(5) + "0;", 2, 7 + 4 * 19);
+        Check.fine("long = ((((((1))))));");
+        Check.fine("long = (1)+(1)+(1)+(1)+(1)+(1)+(1)+(1);");
+        Check.fine("long = if ((((((1)))))) < ((((((1)))))) then ((((((1)))))) else ((((((1))))));");
+        Check.fault("long = (((((((1)))))));", 2, 13);
+        Check.fine("long = 1*(1+(1*(1+(1*(1+(1*1))))));");
+        Check.fault("long = 1*(1+(1*(1+(1*(1+(1*(1)))))));", 2, 27);
         StringBuilder most = new StringBuilder(men);
         for (int i = 0; i < 42; i++) {
             most.append("errand ").append("abcdefg".charAt(i % 7)).append(" 5 5;");
         }
-        fine(most.toString());
-        fault(most + "town 5 6;", 6, 70 + 9);
-        fault(most.substring(0, most.length() - 4) + "6 5;", 6, 70 + 42 * 13 - 4);
+        Check.fine(most.toString());
+        Check.fault(most + "town 5 6;", 6, 70 + 9);
+        Check.fault(most.substring(0, most.length() - 4) + "6 5;", 6, 70 + 42 * 13 - 4);
     }
 
     private static void namesAndNumbers() {
-        fault("man a 0 0;man a 0 0;", 3, 14);
-        fault("man a 0 0;man a 99 0;", 3, 14);
-        fault("man a 99 0;man a 0 0;", 5, 6);
-        fault("man a 0 0;man a 0 0;x", 1, 20);
-        fault("dye a 0;man a 0 0;", 4, 4);
-        fault("dye a 99;", 4, 4);
-        fault("man a 0 0;goes b = 1;", 4, 15);
-        fault("goes a = (1;", 1, 11);
-        fault("town 1 5;", 5, 5);
-        fault("town 5 1;", 5, 7);
-        fault("town 13 5;", 5, 5);
-        fault("town 5 13;", 5, 7);
-        fine("town 2 2;");
-        fine("town 12 12;man a 11 11;errand a 11 0;");
-        fault("town 12 12;man a 12 0;", 5, 17);
-        fault("town 12 12;man a 0 12;", 5, 19);
-        fault("man a 0 0;errand a 12 0;", 5, 19);
-        fault("man a 0 0;errand a 0 12;", 5, 21);
-        fine("man a 0 0;dye a 9;");
-        fault("man a 0 0;dye a 10;", 5, 16);
-        fine("pillar 10 10;town 2 2;");
-        fault("pillar 11 0;", 5, 7);
-        fault("pillar 0 11;", 5, 9);
-        fine("seed 9999;");
-        fine("seed 0;");
-        fault("town 3 3;man a 3 0;", 6, 15);
-        fault("town 3 3;man a 0 3;", 6, 15);
-        fault("man a 3 0;town 3 3;", 6, 6);
-        fine("man a 3 0;town 3 3;town 4 3;");
-        fault("man a 6 0;", 6, 6);
-        fault("man a 0 0;errand a 0 6;", 6, 19);
-        fault("man a 0 0;errand a 6 0;man b 7 7;", 6, 19);
-        fault("man a 6 0;dye a 10;", 5, 16);
+        Check.fault("man a 0 0;man a 0 0;", 3, 14);
+        Check.fault("man a 0 0;man a 99 0;", 3, 14);
+        Check.fault("man a 99 0;man a 0 0;", 5, 6);
+        Check.fault("man a 0 0;man a 0 0;x", 1, 20);
+        Check.fault("dye a 0;man a 0 0;", 4, 4);
+        Check.fault("dye a 99;", 4, 4);
+        Check.fault("man a 0 0;goes b = 1;", 4, 15);
+        Check.fault("goes a = (1;", 1, 11);
+        Check.fault("town 1 5;", 5, 5);
+        Check.fault("town 5 1;", 5, 7);
+        Check.fault("town 13 5;", 5, 5);
+        Check.fault("town 5 13;", 5, 7);
+        Check.fine("town 2 2;");
+        Check.fine("town 12 12;man a 11 11;errand a 11 0;");
+        Check.fault("town 12 12;man a 12 0;", 5, 17);
+        Check.fault("town 12 12;man a 0 12;", 5, 19);
+        Check.fault("man a 0 0;errand a 12 0;", 5, 19);
+        Check.fault("man a 0 0;errand a 0 12;", 5, 21);
+        Check.fine("man a 0 0;dye a 9;");
+        Check.fault("man a 0 0;dye a 10;", 5, 16);
+        Check.fine("pillar 10 10;town 2 2;");
+        Check.fault("pillar 11 0;", 5, 7);
+        Check.fault("pillar 0 11;", 5, 9);
+        Check.fine("seed 9999;");
+        Check.fine("seed 0;");
+        Check.fault("town 3 3;man a 3 0;", 6, 15);
+        Check.fault("town 3 3;man a 0 3;", 6, 15);
+        Check.fault("man a 3 0;town 3 3;", 6, 6);
+        Check.fine("man a 3 0;town 3 3;town 4 3;");
+        Check.fault("man a 6 0;", 6, 6);
+        Check.fault("man a 0 0;errand a 0 6;", 6, 19);
+        Check.fault("man a 0 0;errand a 6 0;man b 7 7;", 6, 19);
+        Check.fault("man a 6 0;dye a 10;", 5, 16);
     }
 
     private static void whatATextTells() {
