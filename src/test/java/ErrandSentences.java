@@ -3,6 +3,9 @@ final class ErrandSentences {
     private static final int LEAST = Integer.MIN_VALUE;
     private static final int MOST = Integer.MAX_VALUE;
 
+    /** To the left first: 2 and 8, not 1 and 3 and 8. */
+    private static final String NOT_THE_NEAREST = "town 12 2;man a 3 0;errand a 4 0;errand a 1 0;errand a 9 0;";
+
     private ErrandSentences() {
     }
 
@@ -33,6 +36,8 @@ final class ErrandSentences {
             0, 1, 2, 3, 4, 5);
         way("man a 0 0;errand a 2 2;errand a 1 0;errand a 0 1;", 6, 1, 2, 0);
         way("man a 1 0;errand a 0 0;errand a 2 0;errand a 2 1;errand a 0 1;", 5, 0, 3, 2, 1);
+        way("town 12 12;man a 5 9;errand a 9 5;errand a 5 8;errand a 0 5;", 17, 1, 0, 2);
+        way("town 12 12;man a 9 5;errand a 5 9;errand a 8 5;errand a 5 0;", 17, 1, 0, 2);
 
         Sentence.of(19, "WAY: the fewest PIECES;");
         ThreadTown town = Check.town("man a 0 0;man b 5 5;errand a 4 0;errand b 5 4;long = 1;");
@@ -46,6 +51,9 @@ final class ErrandSentences {
         }
         Check.due("without MEN", -1, new ThreadTown().way(0));
         Sentence.of(20, "The i-th ERRAND of its order (by number among his);");
+        town = Check.town(NOT_THE_NEAREST);
+        Check.due("not the nearest one first", 1, town.wayAt(0, 0));
+        Check.due("then that", 0, town.wayAt(0, 1));
         town = Check.town("man a 0 0;man b 0 0;errand b 5 0;errand a 1 0;errand b 1 0;errand b 3 0;");
         int[] order = {1, 2, 0};
         for (int i = 0; i < 3; i++) {
@@ -83,6 +91,8 @@ final class ErrandSentences {
         lives(143, "town 12 12;man a 0 0;errand a 0 0;long = 21;");
         lives(144, "town 12 12;man a 0 0;errand a 0 0;long = 22;");
         Sentence.of(21, "LIVES;");
+        // 8 from end to end: from all corners of y 0 but (5, 0), of y 1 but (4, 1), (5, 1) and (6, 1).
+        Check.due("as by the WAY", 20, Check.town(NOT_THE_NEAREST + "long = 11;").lives(0));
         ThreadTown town = Check.town("town 3 3;man a 2 1;errand a 1 1;man b 0 1;errand b 1 1;long = x / 2;");
         Check.due("by how LONG his is", 5, town.lives(0));
         Check.due("by how LONG the other one's is", 1, town.lives(1));
@@ -203,6 +213,8 @@ final class ErrandSentences {
         plain(2, 0, "man a 0 0;errand a 2 2;errand a 4 4;man b 0 0;errand b 2 0;man c 2 2;errand c 2 4;");
         // b goes there and back on one STREET of a's.
         plain(3, 0, "man a 0 0;errand a 2 0;man b 1 0;errand b 0 0;errand b 3 0;");
+        plain(0, 1, "man a 0 0;errand a 2 2;errand a 4 4;man b 2 2;errand b 4 2;");
+        plain(10, 0, NOT_THE_NEAREST + "man b 1 0;errand b 9 0;");
         // In the order of his WAY a does not come back to his second errand.
         plain(2, 0, "man a 0 0;errand a 4 0;errand a 2 0;man b 2 0;errand b 4 0;");
         Sentence.of(35, "A PLAIN DAY: what 0 how many times, 1 CHOICES;");
@@ -221,7 +233,9 @@ final class ErrandSentences {
         ThreadTown town = Check.town("man a 0 0;errand a 2 0;man b 0 0;errand b 2 0;");
         Check.steps(town, "a111");
         Check.due("cut", 0, town.cut(1));
+        Check.due("who", 0, town.plain(1));
         Check.due("whatever lies, whoever is LOST", 2, town.plain(0));
+        Check.due("asked again", 2, town.plain(0));
         Sentence.of(35, "NONE for others.");
         for (int what : new int[] {-1, 2, LEAST, MOST}) {
             Check.due("plain " + what, -1, town.plain(what));

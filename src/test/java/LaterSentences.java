@@ -176,6 +176,8 @@ final class LaterSentences {
         Check.due("cut", 0, town.cut(5));
         // The PIECE laid last can always be wound up: so none ever stays.
         dusk(town, 0, 3, 4, 127 - 4 - 32, 0);
+        Check.due("cut", 1, town.cut(0));
+        dusk(town, 0, 2, 3, 126 - 4 - 32, 0);
         Sentence.of(26, "NONE: no such ones (RULES 0 .. 4).");
         for (int other : new int[] {-1, 5, LEAST, MOST}) {
             for (int i = 0; i < 4; i++) {
@@ -273,6 +275,7 @@ final class LaterSentences {
         }
         town.tell(0, 1, false);
         Check.due("both can't be", 0, town.starts(3, 40, 2));
+        threeStart();
         town.forget();
         town.tell(0, 1, false);
         Check.due("all the others", 10, town.starts(3, 40, 1));
@@ -308,6 +311,18 @@ final class LaterSentences {
                 Check.due(men + " MEN to " + m, all > 1000 ? -2 : all, town.starts(m, 40, 0));
             }
             text.append("man ").append((char) ('a' + men)).append(" 0 0;");
+        }
+    }
+
+    /** b lies over a where he does not start earlier, whenever c starts. */
+    private static void threeStart() {
+        ThreadTown town = Check.town("man a 0 0;man b 0 0;man c 0 0;goes a = if minute < 1 then 1 else 0;"
+            + "goes b = if minute < 1 then 1 else 0;goes c = 2;");
+        town.tell(1, 0, true);
+        int[] rows = {1, 6, 18, 40};
+        for (int m = 0; m < 4; m++) {
+            Check.due("b over a, 0 .. " + m, rows[m], town.starts(m, 40, 1));
+            Check.due("in one minute, 0 .. " + m, m + 1, town.starts(m, 1, 1));
         }
     }
 

@@ -177,6 +177,14 @@ final class TextSentences {
         Check.fault("long = (1 2);", 1, 10);
         Check.due("(2 + 3) * 4", 20, Check.town("man a 0 0;long = (2 + 3) * 4;").man(0, 3));
         Check.due("9 - (5 - 3)", 7, Check.town("man a 0 0;long = 9 - (5 - 3);").man(0, 3));
+        String deepest = "1+2*(".repeat(6) + "1+2*1" + ")".repeat(6);
+        Check.due("255 less 200", 55, Check.town("man a 0 0;long = " + deepest + "-200;").man(0, 3));
+        Check.due("twice, by less than", 1, Check.town("man a 0 0;goes a = if " + deepest + "-1<" + deepest
+            + " then 1 else 2;").man(0, 6));
+        String longest = "man a 0 0;goes a = 1" + "+1".repeat(195) + ";";
+        Check.due("196 in 400 TOKENS", 4, Check.town(longest).man(0, 6));
+        Check.fault(longest + "x", 1, longest.length());
+        Check.fault(longest + "seed 1;", 2, longest.length());
         Sentence.of(0, "VAR: 'x' | 'y' | 'minute' | 'left' | 'lot' | 'rank'.");
         for (int i = 0; i < WORDS.length; i++) {
             String text = "man a 0 0;goes a = " + WORDS[i] + ";";
@@ -348,6 +356,12 @@ final class TextSentences {
         Check.fault(six + "errand c 0 0;", 4, six.length() + 7);
         Check.fault("errand a 0 0;".repeat(8) + "man a 0 0;", 4, 7);
         Check.fault("errand a 0 0;" + six + "errand a 0 0;", 2, six.length() + 13);
+        // 70 TOKENS tell two MEN and six errands each; the next two are the 398th and 399th, and so on.
+        for (int ahead = 397; ahead < 400; ahead++) {
+            String text = six + tokens(ahead - 70);
+            Check.fault(text + "errand b", 2, text.length());
+            Check.fault(text + "errand c", ahead == 399 ? 2 : 1, text.length() + (ahead == 399 ? 7 : 8));
+        }
         Sentence.of(0, "a 5th if of a LAW (at it);");
         String fourIfs = "if 1<2 then 3 else ".repeat(4);
         Check.fine("man a 0 0;long = " + fourIfs + "5;goes a = " + fourIfs + "5;goes a = " + fourIfs + "5;");
@@ -427,10 +441,13 @@ final class TextSentences {
             Check.due("restore", true, town.restore(1));
             Check.due("tape", 0, town.count(8));
         }
+        leaveNothing();
         Sentence.of(0, "else it is in place of the one ahead: minute 0, all at their DOORS, no thread lies, "
             + "nothing can be undone, nothing is TOLD, SLOTS hold nothing.");
         for (String text : new String[] {"", "man z 5 5;man w 4 4;goes z = lot;", ALL_TOLD}) {
             ThreadTown town = Check.town(ALL_TOLD);
+            Check.due("another one", 0, Check.read(town, "man a 0 0;dye a 1;errand a 1 1;seed 5;"));
+            Check.due("once more", 0, Check.read(town, ALL_TOLD));
             Check.steps(town, "a1b1");
             town.cut(1);
             town.hold(0);
@@ -445,6 +462,25 @@ final class TextSentences {
             Check.due("forget", 0, town.forget());
             Check.due("way", Check.town(text).way(0), town.way(0));
             Check.due("nothing lies", -2, town.shows(1, 1, 1));
+        }
+    }
+
+    /** What a text with a FAULT told ahead of it is not told in the next text. */
+    private static void leaveNothing() {
+        String[] faulty = {"town 9 8;seed 7;man a 1 1;man b 0 0;dye a 3;goes a = 2;long = 9;errand a 2 2;pillar 0 1;seed",
+            "long = ((((((1", "long = (1 + (2 - ", "long = if 1 < 2 then 3 else", "man a 9 9;", "dye a 0;"};
+        String[] next = {"", "man a 5 5;man b 0 0;man c 0 0;goes c = lot;", "man a 0 0;long = ((((((7))))));",
+            "man a 0 0;long = 2 * 3;goes a = 7 - 5;", "man a 0 0;" + "pillar 0 0;".repeat(6) + "errand a 0 0;".repeat(6)};
+        for (String one : faulty) {
+            for (String text : next) {
+                ThreadTown town = Check.town(ALL_TOLD);
+                Check.due(one, true, Check.read(town, one) > 0);
+                Check.due(text + " behind " + one, 0, Check.read(town, text));
+                ThreadTown fresh = Check.town(text);
+                Check.due("seen of " + text, Check.seen(fresh), Check.seen(town));
+                Check.due("way", fresh.way(0), town.way(0));
+                Check.due("turns", fresh.turns(0, 0), town.turns(0, 0));
+            }
         }
     }
 

@@ -128,6 +128,16 @@ final class WalkSentences {
         Check.due("c's above", 2, town.street(0, 0, 1, 1));
         Check.due("c lies on one", 1, town.piece(2, 0, 1));
         where(town, 1, 0, 1);
+        ThreadTown pile = Check.town("man a 0 0;man b 0 0;man c 0 0;man d 0 0;man e 0 0;");
+        Check.steps(pile, "a1b1c1d1e1a3");
+        int[][] cuts = {{0, 2, 1, 2, 3, 4}, {2, 1, 1, 3, 4}, {1, 1, 3, 4}, {4, 1, 3}, {3, 1}};
+        for (int[] row : cuts) {
+            Check.due("CUT " + row[0], row[1], pile.cut(row[0]));
+            Check.due("the others lie", row.length - 2, pile.street(0, 0, 1, -1));
+            for (int i = 2; i < row.length; i++) {
+                Check.due("as they lay", row[i], pile.street(0, 0, 1, i - 2));
+            }
+        }
         for (int way = 1; way <= 4; way++) {
             Check.due("LOST steps", false, town.step(1, way));
         }
@@ -519,6 +529,15 @@ final class WalkSentences {
             Check.due("as it was", seen[i], Check.seen(town));
         }
         Check.due("no more", false, town.undo());
+        // Where a PIECE of another STEP came to lie since.
+        town = Check.town("man a 0 0;man b 0 0;");
+        Check.steps(town, "b2a1");
+        String before = Check.seen(town);
+        Check.due("wind", true, town.wind(0));
+        Check.steps(town, "a2");
+        Check.due("undo the step", true, town.undo());
+        Check.due("undo the winding", true, town.undo());
+        Check.due("his STEP as it was", before, Check.seen(town));
         town = Check.town("town 2 2;man a 0 0;long = 60;");
         for (int i = 1; i <= 33; i++) {
             Check.due("step", true, town.step(0, i % 2 == 1 ? 1 : 3));
@@ -568,6 +587,18 @@ final class WalkSentences {
         Check.due("TOLD stays", 1, town.forget());
         Check.due("the tape stays", 1, town.read());
 
+        town = Check.town("man a 0 0;man b 0 0;");
+        Check.steps(town, "b2a1");
+        Check.due("hold", true, town.hold(0));
+        Check.due("home", 1, town.home(0));
+        Check.steps(town, "a22");
+        Check.due("restore", true, town.restore(0));
+        Check.due("his STEP", 1, town.piece(0, 0, 0));
+        Check.due("where it lies", 0, town.street(0, 0, 1, 0));
+        Check.due("what lies elsewhere", 1, town.street(0, 0, 2, -1));
+        Check.due("he winds", true, town.wind(0));
+        where(town, 0, 0, 0);
+
         Sentence.of(43, "It goes on from what a SLOT holds (that stays there; nothing can be undone then): true; "
             + "false, and nothing happens: no such one, nothing is held.");
         town = Check.town("man a 0 0;man b 0 0;goes a = 2;");
@@ -597,9 +628,9 @@ final class WalkSentences {
             + "11 SLOTS that hold something.");
         ThreadTown town = Check.town("town 7 5;man a 0 0;man b 0 0;man c 0 0;pillar 0 0;errand a 0 0;errand a 1 1;"
             + "errand c 2 2;errand c 0 0;");
-        Check.steps(town, "a11b1c222");
+        Check.steps(town, "c11b1a222");
         Check.due("cut", 1, town.cut(1));
-        Check.due("cut", 3, town.cut(2));
+        Check.due("cut", 3, town.cut(0));
         Check.due("run", 9, town.run(9));
         town.hold(0);
         town.hold(0);
@@ -610,6 +641,14 @@ final class WalkSentences {
         int[] due = {3, 7, 5, 9, 2, 2, 1, 4, 5, 9, 3, 1};
         for (int i = 0; i < due.length; i++) {
             Check.due("count " + i, due[i], town.count(i));
+        }
+        town = StreetSentences.full();
+        Check.due("420 PIECES", 420, town.count(4));
+        Check.due("the last STEP of the last one", 3, town.piece(6, 59, 0));
+        for (int man = 0; man < 7; man++) {
+            Check.due("cut", 60, town.cut(man));
+            Check.due("LOST", man + 1, town.count(5));
+            Check.due("those that lie", 360 - 60 * man, town.count(4));
         }
         Sentence.of(44, "NONE for others.");
         for (int what : new int[] {-1, 12, LEAST, MOST}) {
