@@ -201,13 +201,11 @@ final class ErrandSentences {
         Sentence.of(0, "A PLAIN DAY: MEN go one after the other by numbers, each by all his ERRANDS in the order of his "
             + "WAY, each leg first by x and then by y, or (one choice for all his legs) first by y, however LONG his "
             + "thread: CHOICES (bits of those who go by y first) with which PIECES of two MEN lie on one another "
-            + "fewest times together; of alike ones the least bits.");
+            + "fewest times together;");
         plain(2, 0, "man a 0 0;errand a 2 0;man b 0 0;errand b 2 0;");
         plain(6, 0, "man a 0 0;errand a 2 0;man b 0 0;errand b 2 0;man c 0 0;errand c 2 0;long = 0;");
         plain(0, 1, "man a 0 0;errand a 2 2;man b 0 0;errand b 2 0;");
         plain(0, 2, "man a 0 0;errand a 2 0;man b 0 0;errand b 2 2;");
-        plain(0, 1, "man a 0 0;errand a 2 2;man b 0 0;errand b 2 2;");
-        plain(0, 0, "man a 0 0;errand a 2 2;man b 0 0;errand b 0 2;");
         // One choice for both legs: by x first it costs two with b, by y first one or two with c.
         plain(1, 1, "man a 0 0;errand a 2 2;errand a 4 4;man b 0 0;errand b 2 0;man c 2 2;errand c 2 3;");
         plain(2, 0, "man a 0 0;errand a 2 2;errand a 4 4;man b 0 0;errand b 2 0;man c 2 2;errand c 2 4;");
@@ -217,6 +215,11 @@ final class ErrandSentences {
         plain(10, 0, NOT_THE_NEAREST + "man b 1 0;errand b 9 0;");
         // In the order of his WAY a does not come back to his second errand.
         plain(2, 0, "man a 0 0;errand a 4 0;errand a 2 0;man b 2 0;errand b 4 0;");
+        Sentence.of(0, "of alike ones the least bits.");
+        plain(0, 1, "man a 0 0;errand a 2 2;man b 0 0;errand b 2 2;");
+        plain(0, 0, "man a 0 0;errand a 2 2;man b 0 0;errand b 0 2;");
+        plain(4, 1, "man a 0 0;errand a 2 2;man b 0 0;errand b 2 2;man c 0 0;errand c 2 2;");
+        plain(2, 2, "man a 0 0;errand a 2 2;man b 0 0;errand b 3 2;man c 0 0;errand c 4 0;");
         Sentence.of(35, "A PLAIN DAY: what 0 how many times, 1 CHOICES;");
         plain(0, 0, "");
         plain(0, 0, "man a 0 0;man b 0 0;");

@@ -111,7 +111,7 @@ final class KnotSentences {
 
     private static void howManyOrders() {
         Sentence.of(0, "ORDERS: all MEN whose threads lie go HOME one by one, each all the way, none waiting for one "
-            + "who has not yet: how many ORDERS; the first one (by numbers, the first place first).");
+            + "who has not yet: how many ORDERS;");
         ThreadTown town = Check.town(SEVEN);
         Check.steps(town, "a1b1c1d1e1f1g1");
         orders(town, 1, 6, 5, 4, 3, 2, 1, 0);
@@ -133,6 +133,11 @@ final class KnotSentences {
         orders(town, 1, 1, 0);
         Check.steps(town, "a3");
         orders(town, 0);
+        Sentence.of(0, "the first one (by numbers, the first place first).");
+        town = Check.town("town 4 4;man a 0 0;man b 0 0;man c 1 0;man d 1 0;man e 3 3;");
+        Check.steps(town, "a1b1c1d1e3");
+        // b ahead of a, d ahead of c.
+        orders(town, 30, 1, 0, 3, 2, 4);
 
         Sentence.of(16, "ORDERS: how many (1 if no thread lies).");
         Check.due("without MEN", 1, new ThreadTown().orders());
@@ -179,8 +184,7 @@ final class KnotSentences {
     }
 
     private static void fewestCuts() {
-        Sentence.of(0, "CUTS: the fewest MEN whose threads are CUT so that there is an ORDER for the others; "
-            + "of alike ones the fewest PIECES, then the least bits.");
+        Sentence.of(0, "CUTS: the fewest MEN whose threads are CUT so that there is an ORDER for the others;");
         ThreadTown town = Check.town(THREE);
         cuts(town, 0, 0, 0);
         Check.steps(town, "a1b1c1");
@@ -190,17 +194,20 @@ final class KnotSentences {
         Check.steps(town, "a1b131a3c2b3242c4");
         Check.due("no ORDER", 0, town.orders());
         cuts(town, 1, 7, 2);
-        // a with b: the fewer PIECES.
+        Sentence.of(0, "of alike ones the fewest PIECES,");
+        // a with b: two PIECES and one, then two and three, then four and three.
         town = Check.town(THREE);
         Check.steps(town, "a1b1a3");
         cuts(town, 1, 1, 2);
-        Check.steps(town, "b1");
-        cuts(town, 1, 2, 1);
-        Check.steps(town, "b1");
+        Check.steps(town, "b11");
         cuts(town, 1, 2, 1);
         Check.steps(town, "a22");
         cuts(town, 1, 3, 2);
-        // a with b and c with d, alike: the least bits of the four choices.
+        Sentence.of(0, "then the least bits.");
+        town = Check.town(THREE);
+        Check.steps(town, "c1a1c3a1");
+        cuts(town, 1, 2, 1);
+        // a with b and c with d: of the four choices.
         town = Check.town("town 4 4;man a 0 0;man b 0 0;man c 2 0;man d 2 0;");
         Check.steps(town, "a1b1a3c1d1c3b2d2");
         cuts(town, 2, 4, 5);
@@ -210,6 +217,7 @@ final class KnotSentences {
         town = Check.town(SEVEN);
         Check.steps(town, "a1b1c1d1e1f1g1a3b3c3d3e3f3g3");
         cuts(town, 6, 12, 63);
+        Check.due("no ORDER", 0, town.orders());
         Check.steps(town, "a1");
         cuts(town, 6, 12, 126);
         Sentence.of(18, "CUTS: what 0 how many MEN, 1 PIECES, 2 who (bits);");
@@ -228,7 +236,7 @@ final class KnotSentences {
     }
 
     private static void mostOver() {
-        Sentence.of(0, "MOST OVER: who is OVER most PIECES of others, of alike ones the first.");
+        Sentence.of(0, "MOST OVER: who is OVER most PIECES of others,");
         ThreadTown town = Check.town(THREE);
         Check.due("all alike", 0, town.most(0));
         Check.steps(town, "a131313b2c2");
@@ -236,8 +244,9 @@ final class KnotSentences {
         Check.steps(town, "b2c2");
         Check.due("who", 2, town.most(0));
         Check.steps(town, "a2b4");
-        // a is over b and c (2), b over c (1), c over b twice (2): alike, a first.
-        Check.due("of alike ones the first", 0, town.most(0));
+        // a is over b and c (2), b over c (1), c over b twice (2).
+        Sentence.of(0, "of alike ones the first.");
+        Check.due("a and c", 0, town.most(0));
         Check.due("how many", 2, town.most(1));
         Sentence.of(24, "MOST OVER: what 0 who, 1 how many;");
         town = Check.town(SEVEN);

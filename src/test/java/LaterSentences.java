@@ -219,24 +219,46 @@ final class LaterSentences {
     }
 
     private static void telling() {
-        Sentence.of(0, "TOLD: that a MAN's thread lies OVER another one's (or does not), 12 at most, numbered from 0 on; "
-            + "KNOWN by k: the first k.");
+        Sentence.of(0, "TOLD: that a MAN's thread lies OVER another one's (or does not),");
         ThreadTown town = Check.town("man a 0 0;man b 1 0;goes a = 2;goes b = 4;");
-        for (int i = 0; i < 12; i++) {
-            Check.due("tell " + i, i, town.tell(i == 11 ? 0 : 1, i == 11 ? 1 : 0, true));
+        Check.due("tell", 0, town.tell(1, 0, true));
+        Check.due("b lies over a", 3, town.starts(1, 3, 1));
+        Check.due("tell", 1, town.tell(1, 0, false));
+        Check.due("both can't be", 0, town.starts(1, 3, 2));
+        Check.due("forget", 2, town.forget());
+        Check.due("tell", 0, town.tell(1, 0, false));
+        Check.due("b does not lie over a", 1, town.starts(1, 3, 1));
+        Check.due("forget", 1, town.forget());
+        Sentence.of(0, "12 at most, numbered from 0 on;");
+        for (int i = 0; i < 11; i++) {
+            Check.due("tell " + i, i, town.tell(1, 0, true));
         }
+        Check.due("the twelfth", 11, town.tell(0, 1, true));
         Check.due("the 13th", -1, town.tell(0, 1, true));
-        // The first eleven: b over a. The twelfth: a over b.
-        int[] due = {4, 3, 3, 3, 3, 3, 3, 3, 3, 3, 3, 3, 0};
-        for (int k = 0; k <= 12; k++) {
-            Check.due("KNOWN by " + k, due[k], town.starts(1, 3, k));
+        Check.due("TOLD", 12, town.count(10));
+        Sentence.of(0, "KNOWN by k: the first k.");
+        Check.due("nothing KNOWN", 4, town.starts(1, 3, 0));
+        for (int k = 1; k <= 11; k++) {
+            Check.due("b over a, KNOWN by " + k, 3, town.starts(1, 3, k));
         }
-        Sentence.of(39, "It is TOLD: its number; NONE, and nothing happens: 12 are there, no such ones, one and the same.");
-        Check.due("twelve", 12, town.count(10));
+        Check.due("a over b, too, by the twelfth", 0, town.starts(1, 3, 12));
+        Check.due("no 13th", -1, town.starts(1, 3, 13));
+
+        Sentence.of(39, "It is TOLD: its number;");
         Check.due("forget", 12, town.forget());
         Check.due("tell", 0, town.tell(0, 1, true));
-        Check.due("tell", 1, town.tell(0, 1, true));
-        String seen = Check.seen(town);
+        Check.due("the same once more", 1, town.tell(0, 1, true));
+        Sentence.of(39, "NONE, and nothing happens: 12 are there,");
+        ThreadTown full = Check.town("man a 0 0;man b 0 0;");
+        for (int i = 0; i < 12; i++) {
+            Check.due("tell", i, full.tell(0, 1, false));
+        }
+        String seen = Check.seen(full);
+        Check.due("one more", -1, full.tell(0, 1, true));
+        Check.due("seen", seen, Check.seen(full));
+        Check.due("what was TOLD is KNOWN", 1, full.starts(0, 0, 12));
+        Sentence.of(39, "no such ones, one and the same.");
+        seen = Check.seen(town);
         for (int man : new int[] {-1, 2, 7, LEAST, MOST}) {
             Check.due("tell 0 " + man, -1, town.tell(0, man, true));
             Check.due("tell " + man + " 0", -1, town.tell(man, 0, false));
@@ -253,14 +275,12 @@ final class LaterSentences {
         Check.due("nothing KNOWN", -1, town.starts(1, 3, 1));
         Check.due("a new one", 0, town.tell(1, 0, true));
         Check.due("KNOWN by it alone", 3, town.starts(1, 3, 1));
+        Check.due("twelve", 12, full.forget());
         Check.due("without MEN", 0, new ThreadTown().forget());
     }
 
     private static void starting() {
-        Sentence.of(0, "STARTS: for each MAN one of the minutes 0 .. m (0 .. 3): n MINUTES (0 .. 40) go by from the text's "
-            + "begin, MAN by MAN as above, but each does nothing ahead of the minute of his START, and from then on his "
-            + "minute (for LOT, too) is less by that: so that all that is KNOWN (OVER once or more) is so then: how many "
-            + "rows of STARTS (-2 if there are more than 1000 rows to go through).");
+        Sentence.of(0, "STARTS: for each MAN one of the minutes 0 .. m (0 .. 3):");
         // a lies over b where b starts earlier.
         ThreadTown town = Check.town("man a 0 0;man b 1 0;goes a = if minute < 1 then 2 else 0;"
             + "goes b = if minute < 1 then 4 else 0;");
@@ -269,40 +289,62 @@ final class LaterSentences {
         for (int m = 0; m < 4; m++) {
             Check.due("a over b, 0 .. " + m, rows[m], town.starts(m, 40, 1));
         }
+        Check.due("no 0 .. 4", -1, town.starts(4, 40, 1));
+        threeStart();
+        Sentence.of(0, "n MINUTES (0 .. 40) go by from the text's begin, MAN by MAN as above,");
         int[] byMinutes = {0, 0, 1, 3, 6, 6};
         for (int n = 0; n < 6; n++) {
             Check.due("in " + n + " minutes", byMinutes[n], town.starts(3, n, 1));
         }
-        town.tell(0, 1, false);
-        Check.due("both can't be", 0, town.starts(3, 40, 2));
-        threeStart();
-        town.forget();
-        town.tell(0, 1, false);
-        Check.due("all the others", 10, town.starts(3, 40, 1));
-        Check.due("in no minute all", 16, town.starts(3, 0, 1));
-        // Whatever was done, from the text's begin.
+        Check.due("no 41", -1, town.starts(3, 41, 1));
         Check.steps(town, "a2");
         Check.due("cut", 0, town.cut(1));
         Check.due("run", 9, town.run(9));
-        Check.due("all the others", 10, town.starts(3, 40, 1));
-        // The last of 40 minutes: by a START of 3 it is his minute 36.
+        Check.due("whatever was done", 6, town.starts(3, 40, 1));
+        town = Check.town("man a 0 0;man b 0 0;goes a = 1;goes b = if minute < 39 then 0 else 1;long = 1;");
+        town.tell(1, 0, true);
+        Check.due("b goes in the fortieth minute", 4, town.starts(3, 40, 1));
+        Check.due("not in one less", 0, town.starts(3, 39, 1));
+        town = Check.town("man a 0 0;man b 0 0;goes a = 1;goes b = 1;");
+        town.tell(1, 0, true);
+        Check.due("a first, then b", 1, town.starts(0, 1, 1));
+
+        Sentence.of(0, "but each does nothing ahead of the minute of his START, and from then on his minute (for LOT, too) "
+            + "is less by that:");
+        // a goes in the minute 36 behind his START, b in his minute 39: by no START but 0 in forty minutes.
         town = Check.town("man a 0 0;man b 0 0;goes a = if minute < 36 then 0 else if minute < 37 then 1 else 0;"
             + "goes b = if minute < 39 then 0 else 1;");
-        town.tell(0, 1, true);
         town.tell(1, 0, true);
-        // a goes in minute 36 + his START, b in minute 39: by no START of his own but 0.
-        Check.due("a over b", 0, town.starts(3, 40, 1));
+        Check.due("b over a, who starts in any minute", 4, town.starts(3, 40, 1));
+        for (int seed : new int[] {3, 4, 5, 9999}) {
+            town = Check.town("seed " + seed + ";man a 0 0;man b 0 0;goes a = if lot < 10 then 1 else 0;"
+                + "goes b = if lot < 10 then 1 else 0;long = 1;");
+            town.tell(0, 1, true);
+            Check.due("by LOTS of SEED " + seed, byLots(seed), town.starts(3, 40, 1));
+        }
+        Check.due("some rows, not all", true, byLots(3) > 0 && byLots(3) < 16);
+        Check.due("others", true, byLots(4) != byLots(3) || byLots(5) != byLots(3));
+
+        Sentence.of(0, "so that all that is KNOWN (OVER once or more) is so then:");
+        // b's two PIECES over a's one, or none.
+        town = Check.town("man a 0 0;man b 0 0;goes a = if minute < 1 then 1 else 0;goes b = if minute < 1 then 1 else "
+            + "if minute < 2 then 3 else 0;");
+        town.tell(1, 0, true);
+        town.tell(0, 1, false);
+        Check.due("once or twice", 13, town.starts(3, 40, 1));
+        Check.due("and not a over b", 10, town.starts(3, 40, 2));
+        town.tell(0, 1, true);
+        Check.due("not both", 0, town.starts(3, 40, 3));
         town.forget();
-        town.tell(1, 0, true);
-        Check.due("b over a in the last minute", 4, town.starts(3, 40, 1));
-        Check.due("not in one less", 0, town.starts(3, 39, 1));
-        // By LOTS: MAN 0 and MAN 1 step where the lot of their own minute is below 10.
-        town = Check.town("seed 3;man a 0 0;man b 0 0;goes a = if lot < 10 then 1 else 0;"
-            + "goes b = if lot < 10 then 1 else 0;long = 1;");
         town.tell(0, 1, true);
-        Check.due("by LOT", byLots(3), town.starts(3, 40, 1));
-        Check.due("some rows", true, byLots(3) > 0 && byLots(3) < 16);
-        // More than 1000 rows: 1024 and more.
+        Check.due("a over one or two", 6, town.starts(3, 40, 1));
+        town.tell(1, 0, true);
+        Check.due("a over one, below the other one", 3, town.starts(3, 40, 2));
+        town.forget();
+        town.tell(1, 0, false);
+        Check.due("in no minute none", 16, town.starts(3, 0, 1));
+
+        Sentence.of(0, "how many rows of STARTS (-2 if there are more than 1000 rows to go through).");
         StringBuilder text = new StringBuilder();
         for (int men = 0; men <= 7; men++) {
             town = Check.town(text.toString());

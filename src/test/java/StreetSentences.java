@@ -212,7 +212,7 @@ final class StreetSentences {
 
     private static void crowds() {
         Sentence.of(0, "CROWD: the corner to which threads of most MEN come (his DOOR, if a PIECE lies; where a PIECE "
-            + "ends), of alike ones that of the least y, then x.");
+            + "ends),");
         ThreadTown town = Check.town("town 12 12;man a 5 5;man b 6 6;man c 7 5;man d 7 5;man e 7 5;");
         Check.steps(town, "a2");
         Check.due("his DOOR, of the least x", 505, town.crowd(0));
@@ -227,14 +227,18 @@ final class StreetSentences {
         Check.steps(town, "c4d1");
         Check.due("three", 506, town.crowd(0));
         Check.due("a, b and c", 3, town.crowd(1));
+        Sentence.of(0, "of alike ones that of the least y, then x.");
         Check.steps(town, "e1");
-        Check.due("of alike ones the least x", 506, town.crowd(0));
+        Check.due("the least x", 506, town.crowd(0));
         Check.due("three", 3, town.crowd(1));
         Check.due("cut", 1, town.cut(2));
         Check.due("two of some", 2, town.crowd(1));
         Check.due("the least x", 506, town.crowd(0));
         Check.due("cut", 1, town.cut(1));
         Check.due("d and e at their DOORS", 507, town.crowd(0));
+        town = Check.town("town 12 12;man a 0 11;man b 11 0;");
+        Check.steps(town, "a3b1");
+        Check.due("the least y, though x is the greatest", 11, town.crowd(0));
         Sentence.of(34, "CROWD: what 0 100 * y + x, 1 of how many MEN;");
         town = Check.town("town 12 12;man a 11 11;man b 11 10;man c 11 11;");
         Check.steps(town, "a4b1c4");

@@ -107,12 +107,14 @@ final class WalkSentences {
         Check.due("now b can", true, town.wind(1));
         where(town, 1, 1, 2);
 
-        Sentence.of(0, "HOME: he WINDS till he is at his DOOR with no PIECE left lying, or as far as he can.");
+        Sentence.of(0, "HOME: he WINDS till he is at his DOOR with no PIECE left lying,");
         town = Check.town("man a 1 1;man b 1 1;");
         Check.steps(town, "a1342");
         where(town, 0, 1, 1);
         Check.due("through his DOOR and on", 4, town.home(0));
+        where(town, 0, 1, 1);
         Check.due("none lies", 0, town.count(4));
+        Sentence.of(0, "or as far as he can.");
         Check.steps(town, "a1234b1");
         Check.due("as far as he can", 3, town.home(0));
         where(town, 0, 1, 2);
@@ -419,62 +421,101 @@ final class WalkSentences {
         Check.due("cut off", -1, town.piece(0, 0, 0));
     }
 
-    private static void stepsAndWinds() {
-        Sentence.of(8, "STEP: true; false, and nothing happens: he can't, no such ones.");
+    private static void steps() {
+        Sentence.of(8, "STEP: true;");
         ThreadTown town = Check.town("town 2 2;man a 0 0;man b 1 1;man c 0 0;long = 2 - rank;");
-        Check.steps(town, "a12b3");
+        Check.due("step", true, town.step(0, 1));
+        Check.due("his last one", true, town.step(0, 2));
+        Check.due("another one's", true, town.step(1, 3));
         Check.due("cut", 0, town.cut(2));
         String seen = Check.seen(town);
-        int[][] none = {{0, 1}, {0, 3}, {1, 3}, {1, 1}, {2, 1}, {2, 2}, {0, 0}, {0, 5}, {0, -1}, {0, LEAST},
-            {0, MOST}, {-1, 1}, {3, 1}, {7, 1}, {LEAST, 1}, {MOST, 1}, {-1, 0}};
+        Sentence.of(8, "false, and nothing happens: he can't,");
+        for (int way = 1; way <= 4; way++) {
+            Check.due("none LEFT " + way, false, town.step(0, way));
+            Check.due("none LEFT " + way, false, town.step(1, way));
+            Check.due("LOST " + way, false, town.step(2, way));
+        }
+        Check.due("seen", seen, Check.seen(town));
+        ThreadTown corner = Check.town("town 2 2;man a 0 0;");
+        Check.due("out of the TOWN", false, corner.step(0, 3) || corner.step(0, 4));
+        Check.due("nothing to undo", 0, corner.count(9));
+        Sentence.of(8, "no such ones.");
+        int[][] none = {{0, 0}, {0, 5}, {0, -1}, {0, LEAST}, {0, MOST}, {-1, 1}, {3, 1}, {7, 1}, {LEAST, 1}, {MOST, 1},
+            {-1, 0}};
         for (int[] row : none) {
             Check.due("step " + row[0] + " " + row[1], false, town.step(row[0], row[1]));
+            Check.due("one who could " + row[0] + " " + row[1], false, corner.step(row[0], row[1]));
         }
         Check.due("seen", seen, Check.seen(town));
         Check.due("the last thing done is the cut", true, town.undo());
         Check.due("none LOST", 0, town.count(5));
-        Check.due("of no MEN", false, new ThreadTown().step(0, 1));
+        Check.due("without MEN", false, new ThreadTown().step(0, 1));
+    }
 
-        Sentence.of(9, "WIND: true; false, and nothing happens: none of his PIECES lies, one lies on it, LOST, "
-            + "no such one.");
-        town = Check.town("man a 0 0;man b 0 0;man c 0 0;man d 0 0;");
+    /** a's thread lies under b's, c's does not lie, d is LOST. */
+    private static ThreadTown under() {
+        ThreadTown town = Check.town("man a 0 0;man b 0 0;man c 0 0;man d 0 0;");
         Check.steps(town, "a11b11d2");
-        Check.due("wind", true, town.wind(1));
-        Check.steps(town, "b1");
         Check.due("cut", 1, town.cut(3));
-        seen = Check.seen(town);
+        return town;
+    }
+
+    private static void windsAndHomes() {
+        Sentence.of(9, "WIND: true;");
+        ThreadTown town = under();
+        Check.due("one", true, town.wind(1));
+        Check.due("his first one", true, town.wind(1));
+        Check.due("now a", true, town.wind(0));
+        Sentence.of(9, "false, and nothing happens: none of his PIECES lies, one lies on it, LOST, no such one.");
+        town = under();
+        String seen = Check.seen(town);
         for (int man : new int[] {2, 0, 3, -1, 4, 7, LEAST, MOST}) {
             Check.due("wind " + man, false, town.wind(man));
         }
         Check.due("seen", seen, Check.seen(town));
         Check.due("undo the cut", true, town.undo());
         Check.due("d winds", true, town.wind(3));
-        Check.due("of no MEN", false, new ThreadTown().wind(0));
+        Check.due("not once more", false, town.wind(3));
+        Check.due("without MEN", false, new ThreadTown().wind(0));
 
-        Sentence.of(10, "HOME: how many PIECES he winds up; NONE, and nothing happens: none, LOST, no such one.");
-        town = Check.town("man a 0 0;man b 0 0;man c 0 0;man d 0 0;");
-        Check.steps(town, "a11b11d2");
-        Check.due("cut", 1, town.cut(3));
+        Sentence.of(10, "HOME: how many PIECES he winds up;");
+        town = under();
+        Check.due("two", 2, town.home(1));
+        Check.steps(town, "b2");
+        Check.due("a's", 2, town.home(0));
+        Check.due("one", 1, town.home(1));
+        town = StreetSentences.full();
+        Check.due("one of sixty", 1, town.home(6));
+        for (int man = 0; man < 6; man++) {
+            Check.due("cut", 60, town.cut(man));
+        }
+        Check.due("the other 59", 59, town.home(6));
+        town = Check.town("man a 0 0;goes a = 1 + 2 * (minute - minute / 2 * 2);long = 60;");
+        Check.due("run", 60, town.run(60));
+        Check.due("sixty", 60, town.home(0));
+        Sentence.of(10, "NONE, and nothing happens: none, LOST, no such one.");
+        town = under();
         seen = Check.seen(town);
         for (int man : new int[] {2, 0, 3, -1, 4, 7, LEAST, MOST}) {
             Check.due("home " + man, -1, town.home(man));
         }
         Check.due("seen", seen, Check.seen(town));
-        Check.due("two", 2, town.home(1));
-        Check.due("then a", 2, town.home(0));
-        Check.due("none now", -1, town.home(0));
-        town = Check.town("man a 0 0;long = 60;");
-        town.run(0);
-        for (int i = 0; i < 30; i++) {
-            Check.steps(town, "a13");
-        }
-        Check.due("sixty", 60, town.home(0));
-        Check.due("of no MEN", -1, new ThreadTown().home(0));
+        Check.due("undo the cut", true, town.undo());
+        Check.due("d's", 1, town.home(3));
+        Check.due("none now", -1, town.home(3));
+        Check.due("without MEN", -1, new ThreadTown().home(0));
     }
 
     private static void cutsAndRuns() {
-        Sentence.of(11, "CUT: how many PIECES are gone; NONE, and nothing happens: LOST already, no such one.");
+        Sentence.of(11, "CUT: how many PIECES are gone;");
         ThreadTown town = Check.town("man a 0 0;man b 0 0;");
+        Check.steps(town, "a111");
+        Check.due("none lay", 0, town.cut(1));
+        Check.due("LOST all the same", 1, town.man(1, 4));
+        Check.due("a thing done", 4, town.count(9));
+        Check.due("three", 3, town.cut(0));
+        Sentence.of(11, "NONE, and nothing happens: LOST already, no such one.");
+        town = Check.town("man a 0 0;man b 0 0;");
         Check.steps(town, "a111");
         Check.due("three", 3, town.cut(0));
         String seen = Check.seen(town);
@@ -482,16 +523,13 @@ final class WalkSentences {
             Check.due("cut " + man, -1, town.cut(man));
         }
         Check.due("seen", seen, Check.seen(town));
-        Check.due("none lay", 0, town.cut(1));
-        Check.due("LOST all the same", 1, town.man(1, 4));
-        Check.due("a thing done", 5, town.count(9));
-        Check.due("of no MEN", -1, new ThreadTown().cut(0));
+        Check.due("without MEN", -1, new ThreadTown().cut(0));
 
-        Sentence.of(12, "n MINUTES (0 .. 200; 0 is no thing done) go by: which it is; NONE, and nothing happens: "
-            + "no such n.");
+        Sentence.of(12, "n MINUTES (0 .. 200; 0 is no thing done) go by: which it is;");
         town = Check.town("man a 0 0;goes a = if minute < 199 then 0 else 1;");
         Check.due("none", 0, town.run(0));
         Check.due("no thing done", 0, town.count(9));
+        Check.due("nothing to undo", false, town.undo());
         Check.due("one", 1, town.run(1));
         Check.due("a thing done", 1, town.count(9));
         Check.due("none again", 1, town.run(0));
@@ -499,20 +537,20 @@ final class WalkSentences {
         Check.due("undo", true, town.undo());
         Check.due("two hundred", 200, town.run(200));
         Check.due("the last one, too", 1, town.man(0, 2));
+        Check.due("more", 399, town.run(199));
+        Check.due("without MEN", 200, new ThreadTown().run(200));
+        Sentence.of(12, "NONE, and nothing happens: no such n.");
         seen = Check.seen(town);
         for (int n : new int[] {201, -1, -200, LEAST, MOST}) {
             Check.due("run " + n, -1, town.run(n));
         }
         Check.due("seen", seen, Check.seen(town));
-        Check.due("more", 399, town.run(199));
-        Check.due("without MEN", 200, new ThreadTown().run(200));
+        Check.due("without MEN", -1, new ThreadTown().run(201));
     }
 
     private static void undoing() {
-        Sentence.of(13, "The last thing done (step, wind, home, cut, run) is undone: true; false: there is none "
-            + "(the last 30 can be).");
+        Sentence.of(13, "The last thing done (step, wind, home, cut, run) is undone: true;");
         ThreadTown town = Check.town("man a 0 0;man b 0 0;goes a = 2;");
-        Check.due("none done", false, town.undo());
         String[] seen = new String[6];
         seen[0] = Check.seen(town);
         Check.steps(town, "b1");
@@ -528,7 +566,6 @@ final class WalkSentences {
             Check.due("undo", true, town.undo());
             Check.due("as it was", seen[i], Check.seen(town));
         }
-        Check.due("no more", false, town.undo());
         // Where a PIECE of another STEP came to lie since.
         town = Check.town("man a 0 0;man b 0 0;");
         Check.steps(town, "b2a1");
@@ -538,6 +575,19 @@ final class WalkSentences {
         Check.due("undo the step", true, town.undo());
         Check.due("undo the winding", true, town.undo());
         Check.due("his STEP as it was", before, Check.seen(town));
+        Sentence.of(13, "false: there is none");
+        town = Check.town("man a 0 0;man b 0 0;");
+        Check.due("none done", false, town.undo());
+        Check.due("what is refused is none", false, town.step(0, 3) || town.wind(0) || town.step(2, 1));
+        Check.due("what is refused is none", -4, town.home(0) + town.cut(2) + town.run(201) + town.run(-1));
+        Check.due("what is told, held or asked is none", 1, town.tell(0, 1, true) + town.orders());
+        Check.due("hold", true, town.hold(0));
+        Check.due("none done", false, town.undo());
+        Check.steps(town, "a1");
+        Check.due("one done", true, town.undo());
+        Check.due("none any more", false, town.undo());
+        Check.due("without MEN", false, new ThreadTown().undo());
+        Sentence.of(13, "(the last 30 can be).");
         town = Check.town("town 2 2;man a 0 0;long = 60;");
         for (int i = 1; i <= 33; i++) {
             Check.due("step", true, town.step(0, i % 2 == 1 ? 1 : 3));
@@ -559,13 +609,13 @@ final class WalkSentences {
     }
 
     private static void holding() {
-        Sentence.of(42, "All that goes on (not what is TOLD, nor the tape) is held in a SLOT (0 .. 2): true; "
-            + "false: no such one.");
+        Sentence.of(42, "false: no such one.");
         ThreadTown town = Check.town("man a 0 0;man b 0 0;goes a = 2;");
         for (int slot : new int[] {-1, 3, LEAST, MOST}) {
             Check.due("hold " + slot, false, town.hold(slot));
         }
         Check.due("none holds", 0, town.count(11));
+        Sentence.of(42, "All that goes on (not what is TOLD, nor the tape) is held in a SLOT (0 .. 2): true;");
         for (int slot = 0; slot < 3; slot++) {
             Check.steps(town, "b1");
             town.run(1);
@@ -598,10 +648,17 @@ final class WalkSentences {
         Check.due("what lies elsewhere", 1, town.street(0, 0, 2, -1));
         Check.due("he winds", true, town.wind(0));
         where(town, 0, 0, 0);
+        Check.due("hold anew", true, town.hold(0));
+        Check.due("one holds", 1, town.count(11));
+        Check.steps(town, "a1");
+        Check.due("restore", true, town.restore(0));
+        Check.due("what it holds now", 1, town.count(4));
+        Check.due("hold of no MEN", true, new ThreadTown().hold(2));
+    }
 
-        Sentence.of(43, "It goes on from what a SLOT holds (that stays there; nothing can be undone then): true; "
-            + "false, and nothing happens: no such one, nothing is held.");
-        town = Check.town("man a 0 0;man b 0 0;goes a = 2;");
+    private static void restoring() {
+        Sentence.of(43, "false, and nothing happens: no such one, nothing is held.");
+        ThreadTown town = Check.town("man a 0 0;man b 0 0;goes a = 2;");
         Check.steps(town, "a1b1");
         Check.due("hold", true, town.hold(1));
         String seen = Check.seen(town);
@@ -610,6 +667,8 @@ final class WalkSentences {
         }
         Check.due("seen", seen, Check.seen(town));
         Check.due("the things done can still be undone", true, town.undo());
+        Check.due("nothing is held", false, new ThreadTown().restore(0));
+        Sentence.of(43, "It goes on from what a SLOT holds (that stays there; nothing can be undone then): true;");
         for (int time = 0; time < 2; time++) {
             Check.due("restore", true, town.restore(1));
             Check.due("nothing can be undone", 0, town.count(9));
@@ -665,10 +724,12 @@ final class WalkSentences {
         lots();
         men();
         pieces();
-        stepsAndWinds();
+        steps();
+        windsAndHomes();
         cutsAndRuns();
         undoing();
         holding();
+        restoring();
         counting();
     }
 }
