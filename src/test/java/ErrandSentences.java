@@ -198,9 +198,9 @@ final class ErrandSentences {
     }
 
     private static void plainDays() {
-        Sentence.of(0, "A PLAIN DAY: MEN go one after the other by numbers, each by all his ERRANDS in the order of his "
-            + "WAY, each leg first by x and then by y, or (one choice for all his legs) first by y, however LONG his "
-            + "thread: CHOICES (bits of those who go by y first) with which PIECES of two MEN lie on one another "
+        Sentence.of(0, "A PLAIN DAY: MEN go one after the other by numbers, each by all his ERRANDS in the order of "
+            + "his WAY, each leg first by x and then by y, or (one choice for all his legs) first by y, however LONG "
+            + "his thread: CHOICES (bits of those who go by y first) with which PIECES of two MEN lie on one another "
             + "fewest times together;");
         plain(2, 0, "man a 0 0;errand a 2 0;man b 0 0;errand b 2 0;");
         plain(6, 0, "man a 0 0;errand a 2 0;man b 0 0;errand b 2 0;man c 0 0;errand c 2 0;long = 0;");

@@ -120,8 +120,8 @@ final class LaterSentences {
     }
 
     private static void byLot() {
-        Sentence.of(0, "4 LOT 1000 of the SEED and 2000 + 8 * (the minute that is now and how many went by since) + his "
-            + "number;");
+        Sentence.of(0, "4 LOT 1000 of the SEED and 2000 + 8 * (the minute that is now and how many went by since) + "
+            + "his number;");
         int[] seen = new int[8];
         for (int seed = 0; seed < 12; seed++) {
             for (int now : new int[] {0, 1, 2, 200}) {
@@ -167,8 +167,8 @@ final class LaterSentences {
         for (int rule = 0; rule < 5; rule++) {
             dusk(new ThreadTown(), rule, 0, 0, 0, 0);
         }
-        Sentence.of(26, "2 the MEN (bits) who are not LOST and of whose threads no PIECE lies then, 3 the MEN (bits) of "
-            + "whom some still lies;");
+        Sentence.of(26, "2 the MEN (bits) who are not LOST and of whose threads no PIECE lies then, 3 the MEN (bits) "
+            + "of whom some still lies;");
         town = Check.town(SEVEN);
         dusk(town, 0, 0, 0, 127, 0);
         Check.steps(town, "a1b11c2d2");
@@ -193,7 +193,8 @@ final class LaterSentences {
     }
 
     private static void bestRule() {
-        Sentence.of(0, "BEST RULE: by which most PIECES are wound up, of alike ones in the fewest minutes, then the first.");
+        Sentence.of(0, "BEST RULE: by which most PIECES are wound up, of alike ones in the fewest minutes, then the "
+            + "first.");
         Check.due("none lies", 0, Check.town(SEVEN).bestDusk());
         Check.due("three minutes", 3, knot("").bestDusk());
         Check.due("three minutes by 2 and 3", 2, knot("long = 30 + 5 * rank;").bestDusk());
@@ -309,8 +310,8 @@ final class LaterSentences {
         town.tell(1, 0, true);
         Check.due("a first, then b", 1, town.starts(0, 1, 1));
 
-        Sentence.of(0, "but each does nothing ahead of the minute of his START, and from then on his minute (for LOT, too) "
-            + "is less by that:");
+        Sentence.of(0, "but each does nothing ahead of the minute of his START, and from then on his minute (for LOT, "
+            + "too) is less by that:");
         // a goes in the minute 36 behind his START, b in his minute 39: by no START but 0 in forty minutes.
         town = Check.town("man a 0 0;man b 0 0;goes a = if minute < 36 then 0 else if minute < 37 then 1 else 0;"
             + "goes b = if minute < 39 then 0 else 1;");

@@ -236,6 +236,9 @@ final class StreetSentences {
         Check.due("the least x", 506, town.crowd(0));
         Check.due("cut", 1, town.cut(1));
         Check.due("d and e at their DOORS", 507, town.crowd(0));
+        town = Check.town("town 12 12;man a 1 0;");
+        Check.steps(town, "a2");
+        Check.due("the second corner of all", 1, town.crowd(0));
         town = Check.town("town 12 12;man a 0 11;man b 11 0;");
         Check.steps(town, "a3b1");
         Check.due("the least y, though x is the greatest", 11, town.crowd(0));
@@ -263,8 +266,8 @@ final class StreetSentences {
     }
 
     private static void near() {
-        Sentence.of(37, "The MAN nearest to a MAN (by x and by y, LOST ones, too): what 0 who (of alike ones the first), "
-            + "1 how far;");
+        Sentence.of(37, "The MAN nearest to a MAN (by x and by y, LOST ones, too): what 0 who (of alike ones the "
+            + "first), 1 how far;");
         ThreadTown town = Check.town("town 12 12;man a 0 0;man b 11 11;man c 0 0;man d 3 0;man e 0 3;man f 2 2;");
         int[][] due = {{2, 0}, {5, 18}, {0, 0}, {0, 3}, {0, 3}, {3, 3}};
         for (int man = 0; man < 6; man++) {

@@ -183,6 +183,11 @@ final class TextSentences {
             + " then 1 else 2;").man(0, 6));
         String longest = "man a 0 0;goes a = 1" + "+1".repeat(195) + ";";
         Check.due("196 in 400 TOKENS", 4, Check.town(longest).man(0, 6));
+        ThreadTown again = new ThreadTown();
+        for (int time = 0; time < 6; time++) {
+            Check.due("read once more", 0, Check.read(again, longest));
+            Check.due("196 once more", 4, again.man(0, 6));
+        }
         Check.fault(longest + "x", 1, longest.length());
         Check.fault(longest + "seed 1;", 2, longest.length());
         Sentence.of(0, "VAR: 'x' | 'y' | 'minute' | 'left' | 'lot' | 'rank'.");
@@ -467,10 +472,11 @@ final class TextSentences {
 
     /** What a text with a FAULT told ahead of it is not told in the next text. */
     private static void leaveNothing() {
-        String[] faulty = {"town 9 8;seed 7;man a 1 1;man b 0 0;dye a 3;goes a = 2;long = 9;errand a 2 2;pillar 0 1;seed",
+        String[] faulty = {"town 9 8;" + ALL_TOLD + "seed",
             "long = ((((((1", "long = (1 + (2 - ", "long = if 1 < 2 then 3 else", "man a 9 9;", "dye a 0;"};
         String[] next = {"", "man a 5 5;man b 0 0;man c 0 0;goes c = lot;", "man a 0 0;long = ((((((7))))));",
-            "man a 0 0;long = 2 * 3;goes a = 7 - 5;", "man a 0 0;" + "pillar 0 0;".repeat(6) + "errand a 0 0;".repeat(6)};
+            "man a 0 0;long = 2 * 3;goes a = 7 - 5;",
+            "man a 0 0;" + "pillar 0 0;".repeat(6) + "errand a 0 0;".repeat(6)};
         for (String one : faulty) {
             for (String text : next) {
                 ThreadTown town = Check.town(ALL_TOLD);
@@ -482,6 +488,12 @@ final class TextSentences {
                 Check.due("turns", fresh.turns(0, 0), town.turns(0, 0));
             }
         }
+        ThreadTown town = new ThreadTown();
+        for (int time = 0; time < 9; time++) {
+            Check.due("one more that breaks off", 1, Check.read(town, "long = ((((((1"));
+        }
+        Check.due("a whole one", 0, Check.read(town, "man a 0 0;long = 2 * (3 + 4) - 1;"));
+        Check.due("LONG", 13, town.man(0, 3));
     }
 
     private static void newObject() {

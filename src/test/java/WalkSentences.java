@@ -140,6 +140,13 @@ final class WalkSentences {
                 Check.due("as they lay", row[i], pile.street(0, 0, 1, i - 2));
             }
         }
+        pile = Check.town("man a 0 0;man b 0 0;man c 0 0;man d 0 0;");
+        Check.steps(pile, "b1d1a1c1");
+        Check.due("CUT the lowest", 1, pile.cut(1));
+        int[] stay = {3, 0, 2, -1};
+        for (int i = 0; i < 4; i++) {
+            Check.due("as they lay", stay[i], pile.street(0, 0, 1, i));
+        }
         for (int way = 1; way <= 4; way++) {
             Check.due("LOST steps", false, town.step(1, way));
         }
@@ -476,6 +483,11 @@ final class WalkSentences {
         Check.due("undo the cut", true, town.undo());
         Check.due("d winds", true, town.wind(3));
         Check.due("not once more", false, town.wind(3));
+        // Beside one of whose thread all sixty lie.
+        town = Check.town("man a 0 0;man b 0 0;goes a = 1 + 2 * (minute - minute / 2 * 2);long = 60;");
+        Check.due("run", 60, town.run(60));
+        Check.due("none of b's lies", false, town.wind(1));
+        Check.due("all of a's", 60, town.man(0, 2));
         Check.due("without MEN", false, new ThreadTown().wind(0));
 
         Sentence.of(10, "HOME: how many PIECES he winds up;");
