@@ -674,7 +674,7 @@ public final class ThreadTown {
             for (int i = from; i < end; i++) {
                 letters = letters * 32 + (at(tape, i) - 'a' + 1);
             }
-            if (size < names.length) {
+            if (size >= 0 && size < names.length) {
                 names[size] = letters;
             }
             for (int i = 0; i < words.length; i++) {
@@ -1129,7 +1129,7 @@ public final class ThreadTown {
         }
 
         void addMan(long name, int x, int y) {
-            if (men < names.length) {
+            if (men >= 0 && men < names.length) {
                 names[men] = name;
                 put(doorX, men, x);
                 put(doorY, men, y);
@@ -1483,7 +1483,7 @@ public final class ThreadTown {
 
         boolean takeBack(Day day) {
             int last = next > 0 ? next - 1 : UNDOS - 1;
-            Day ahead = size > 0 && last < kept.length ? kept[last] : null;
+            Day ahead = size > 0 && last >= 0 && last < kept.length ? kept[last] : null;
             if (ahead == null) {
                 return false;
             }
